@@ -1271,7 +1271,7 @@ public final class PassedCarry {
         private void passOthers(int x, int to, int law, int slope) {
             for (int y = yard[x]; y < to; y++) {
                 for (int other = 0; other < runners; other++) {
-                    if (other != x && yard[other] == y && !isDone(other)) {
+                    if (yard[other] == y && other != x && !isDone(other)) {
                         passings++;
                         passedBits[x] |= 1 << other;
                         if (sackMoves(x, law, slope)) {

@@ -123,6 +123,13 @@ public final class ChoicesTest {
         PassedCarry q = Check.hillOf("y= n9w n9w");
         check.due("no others", q.worth(0, 1, 2), 0);
         check.due("worth(0, 1, 2) by asked()", q.asked(), 0);
+        // Only if both rest in STEP 0, RUNNER 1 comes to pass RUNNER 2 once more, in STEP 2.
+        PassedCarry s = Check.hillOf("y==== n9z n9w n9zw");
+        check.due("pays()", s.pays(), 0);
+        check.due("pact(0, 1, 2, 1)", s.pact(0, 1, 2, 1), 0);
+        check.due("pact(0, 1, 2, 1) by asked()", s.asked(), 1);
+        check.due("worth(0, 1, 1)", s.worth(0, 1, 1), 1);
+        check.due("worth(0, 1, 1) by asked()", s.asked(), 4);
     }
 
     private static void choicesBehindTheEnd() {

@@ -307,6 +307,8 @@ public final class HillsTest {
         check.due("KIND 6", p.mark(0, 6), BAD);
         check.due("no RUNNER", p.mark(5, 1), BAD);
         check.due("findings(3)", p.findings(3), 4);
+        PassedCarry s = Check.hillOf("y/=^ g1w");
+        check.due("the first YARD and the last", s.mark(0, 1), 2);
         PassedCarry q = Check.hillOf("y= n1w");
         check.finds("a RUNNER is no GOAT", q, q.mark(0, 1), UNLIKE);
     }
@@ -314,7 +316,8 @@ public final class HillsTest {
     private static void head() {
         PassedCarry p = Check.hillOf("y==== n9w n9w");
         check.due("head(1, 9)", p.head(1, 9), 0);
-        check.due("head(1, 2)", p.head(1, 2), 9);
+        check.due("head(1, 0)", p.head(1, 0), 9);
+        check.due("head(1, 2)", p.head(1, 2), 0);
         check.due("head(1, 10)", p.head(1, 10), BAD);
         check.due("head(1, -1)", p.head(1, -1), BAD);
         check.due("head(2, 0)", p.head(2, 0), BAD);

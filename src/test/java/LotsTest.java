@@ -54,6 +54,8 @@ public final class LotsTest {
         check.tells("HEAD STARTS stay", p, p.about(0, 2), 0);
         PassedCarry q = Check.hillOf("y= n9w");
         check.due("alone one always PAYS", q.start(0), NONE);
+        PassedCarry u = Check.hillOf("y========= n9w n9z");
+        check.due("only who is DONE at once does not PAY", u.start(1), 9);
         // By LAW 2 nothing moves on the slope, so RUNNER 0 PAYS with any HEAD START.
         PassedCarry s = Check.hillOf("y" + "/".repeat(20) + " m9w n9z");
         check.due("by LAW 0", s.start(0), 0);
@@ -75,6 +77,9 @@ public final class LotsTest {
         PassedCarry s = Check.hillOf("y===== n9z n9z n9z");
         check.due("nobody is DONE", s.fair(0), 0);
         check.row("fair(0)", s, 0, 0, 0, 0);
+        PassedCarry u = Check.hillOf("y==== h9s n9z");
+        check.due("as far apart as can be", u.fair(0), 60);
+        check.row("fair(0)", u, 0, 0, 0);
         PassedCarry t = Check.hillOf("y=== n9z n9r");
         check.due("DONE by its HEAD START is DONE in STEP 0", t.fair(0), 0);
         check.row("fair(0)", t, 0, 3, 1);
@@ -182,6 +187,11 @@ public final class LotsTest {
         check.due("by a HEAD START RUNNER 0 keeps it", s.odds(0), 27);
         check.fraction("odds(0)", s, 1, 1);
         check.tells("the most BREATH stays", s, s.about(0, 1), 1);
+        // With 3 BREATH or 4 RUNNER 1 is DONE at once, with 2 the HARE comes to pass it.
+        PassedCarry u = Check.hillOf("y=== h9zs n3s");
+        check.due("odds(1)", u.odds(1), 3);
+        check.fraction("odds(1)", u, 1, 3);
+        check.due("odds(0)", u.odds(0), 6);
         // 3 BREATH to go up by 2 and the SACK, and 1 given: 2 are enough; 1 of 3 is too few.
         PassedCarry t = Check.hillOf("y^ n2w n9z");
         check.due("odds(0)", t.odds(0), 3);

@@ -122,6 +122,8 @@ public final class RacesTest {
         light('\\', "g5s", 1, 3, 3);
         light('^', "m5sz", 2, 3, 5);
         light('^', "g5sz", 2, 3, 4);
+        light('=', "m9ssz", 3, 6, 6);
+        light('=', "n9ssz", 3, 6, 5);
         light('=', "h5s", 1, 4, 2);
         light('=', "h5s", 2, 6, 1);
         light('^', "h5s", 1, 4, 0);
@@ -274,6 +276,10 @@ public final class RacesTest {
         check.tells("nor are HEAD STARTS", p, p.about(0, 2), 5);
         p.go(1);
         check.due("still kept", p.on(0), 1);
+        p.begin();
+        check.due("on(0) from a beginning", p.on(0), 1);
+        sack(p, 1, 1);
+        check.due("passed(0)", p.passed(0), 2);
         check.due("on(2)", p.on(2), 4);
         check.finds("on(1)", p, p.on(1), NOTHING);
         check.due("keep anew", p.keep(0), 4);
@@ -290,6 +296,9 @@ public final class RacesTest {
         check.row("ranks(5)", p, 5, 1, 2);
         check.due("it stays", p.count(2), 0);
         sack(p, 0, 0);
+        PassedCarry u = Check.hillOf("y==== n9w n9r");
+        check.due("ranks(4) at the end, not as they are", u.ranks(4), 1);
+        check.row("ranks(4)", u, 4, 2, 1);
         PassedCarry q = Check.hillOf("y==== n9z n9r");
         check.due("pays(): who never goes", q.pays(), 0);
         check.due("pays() by asked()", q.asked(), 60);
