@@ -7,11 +7,13 @@ import java.util.Arrays;
 public final class PassedCarry {
     public static final int BAD = -1, FULL = -2, FINDING = -3, STATE = -4, SPENT = -6, NONE = -9;
 
+    /** The answer of a check that finds nothing to refuse; every refusal is below it. */
+    private static final int FINE = 0;
     private static final int NOTHING = 1, BEYOND = 2, UNLIKE = 3, NOUGHT = 4, SIZE = 5;
     private static final int GOAT = 1, OX = 2, HARE = 3, HILLMAN = 4, MULE = 5;
     private static final int ROWS = 6, ROW_MOST = 60, TEXTS = 4, TEXT_MOST = 100, KEPT = 3;
     private static final int YARDS_MOST = 40, RUNNERS_MOST = 5, PACES_MOST = 8, STEPS_MOST = 60;
-    private static final int HEAD_MOST = 9, FAIR_HEADS = 4, LAWS = 3, BREATHS_AT_LOT = 3;
+    private static final int HEAD_MOST = 9, LAWS = 3, BREATHS_AT_LOT = 3;
     private static final int CHOICES_MOST = 4, DUEL_MOST = 2, PACT_MOST = 2, CHOICE_ROWS_MOST = 256;
     private static final int SEASON_MOST = 40, LOT_FACTOR = 48271, LOT_MODULUS = 2147483647;
     private static final int BLANK = 32, BY_PLAN = -1, NOBODY = -1, NO_SIGN = -1000;
@@ -59,25 +61,13 @@ public final class PassedCarry {
     // ---- 1 rows, texts, hills
 
     public int row(int r, int n) {
-        if (!isRow(r) || n > ROW_MOST) {
-            return BAD;
-        }
-        if (n < 0) {
-            return found(SIZE);
-        }
-        rows[r].renew(n, 0);
-        return n;
+        return layOut(rows, r, n, 0);
     }
 
     public int lay(int r, int i, int v) {
-        if (!isRow(r)) {
-            return BAD;
-        }
-        if (rows[r].isMissing()) {
-            return found(NOTHING);
-        }
-        if (!rows[r].has(i)) {
-            return found(BEYOND);
+        int refusal = refusalAt(rows, r, i);
+        if (refusal != FINE) {
+            return refusal;
         }
         askedLast = rows[r].places[i];
         rows[r].places[i] = v;
@@ -85,25 +75,18 @@ public final class PassedCarry {
     }
 
     public int at(int r, int i) {
-        if (!isRow(r)) {
-            return BAD;
-        }
-        if (rows[r].isMissing()) {
-            return found(NOTHING);
-        }
-        if (!rows[r].has(i)) {
-            return found(BEYOND);
+        int refusal = refusalAt(rows, r, i);
+        if (refusal != FINE) {
+            return refusal;
         }
         askedLast = rows[r].places[i];
         return 1;
     }
 
     public int tear(int r) {
-        if (!isRow(r)) {
-            return BAD;
-        }
-        if (rows[r].isMissing()) {
-            return found(NOTHING);
+        int refusal = refusalOf(rows, r);
+        if (refusal != FINE) {
+            return refusal;
         }
         rows[r].remove();
         return 1;
@@ -127,14 +110,12 @@ public final class PassedCarry {
     }
 
     public int mean(int r) {
-        if (!isRow(r)) {
-            return BAD;
-        }
-        if (rows[r].isMissing()) {
-            return found(NOTHING);
+        int refusal = refusalOf(rows, r);
+        if (refusal != FINE) {
+            return refusal;
         }
         int size = rows[r].size;
-        if (size == 0) {
+        if (size <= 0) {
             return found(NOUGHT);
         }
         askedLast = (int) (rows[r].sum() / size);
@@ -142,25 +123,13 @@ public final class PassedCarry {
     }
 
     public int text(int t, int n) {
-        if (!isText(t) || n > TEXT_MOST) {
-            return BAD;
-        }
-        if (n < 0) {
-            return found(SIZE);
-        }
-        texts[t].renew(n, BLANK);
-        return n;
+        return layOut(texts, t, n, BLANK);
     }
 
     public int put(int t, int i, int v) {
-        if (!isText(t)) {
-            return BAD;
-        }
-        if (texts[t].isMissing()) {
-            return found(NOTHING);
-        }
-        if (!texts[t].has(i)) {
-            return found(BEYOND);
+        int refusal = refusalAt(texts, t, i);
+        if (refusal != FINE) {
+            return refusal;
         }
         int before = texts[t].places[i];
         texts[t].places[i] = (byte) v;
@@ -168,21 +137,17 @@ public final class PassedCarry {
     }
 
     public int fault(int t) {
-        if (!isText(t)) {
-            return BAD;
-        }
-        if (texts[t].isMissing()) {
-            return found(NOTHING);
+        int refusal = refusalOf(texts, t);
+        if (refusal != FINE) {
+            return refusal;
         }
         return new Reader(texts[t], draft).readHill();
     }
 
     public int hill(int t) {
-        if (!isText(t)) {
-            return BAD;
-        }
-        if (texts[t].isMissing()) {
-            return found(NOTHING);
+        int refusal = refusalOf(texts, t);
+        if (refusal != FINE) {
+            return refusal;
         }
         if (new Reader(texts[t], draft).readHill() != NONE) {
             return STATE;
@@ -528,19 +493,19 @@ public final class PassedCarry {
         if (!isRow(r) || !isRow(later) || set < 0 || set >= 1 << course.runners) {
             return BAD;
         }
-        Row ahead = rows[r];
-        Row behind = rows[later];
-        if (ahead.isMissing() || behind.isMissing()) {
+        Row first = rows[r];
+        Row second = rows[later];
+        if (first.isMissing() || second.isMissing()) {
             return found(NOTHING);
         }
-        if (ahead.size != behind.size) {
+        if (first.size != second.size) {
             return found(SIZE);
         }
-        int members = ahead.runnersIn(course.runners);
-        if (members == NONE || members != behind.runnersIn(course.runners)) {
+        int members = first.runnersIn(course.runners);
+        if (members == NONE || members != second.runnersIn(course.runners)) {
             return found(UNLIKE);
         }
-        int overtaken = overtakenBetween(ahead, behind);
+        int overtaken = overtakenBetween(first, second);
         return overtaken == 0 ? set : overtaken;
     }
 
@@ -675,10 +640,6 @@ public final class PassedCarry {
         return r >= 0 && r < ROWS;
     }
 
-    private static boolean isText(int t) {
-        return t >= 0 && t < TEXTS;
-    }
-
     private static boolean isKeptPlace(int k) {
         return k >= 0 && k < KEPT;
     }
@@ -689,6 +650,35 @@ public final class PassedCarry {
 
     private boolean arePactOf(int x, int y, int k) {
         return isRunner(x) && isRunner(y) && x != y && k >= 1 && k <= PACT_MOST;
+    }
+
+    /** Why a ROW (or a TEXT) can't be used, or FINE. */
+    private int refusalOf(Row[] among, int r) {
+        if (r < 0 || r >= among.length) {
+            return BAD;
+        }
+        return among[r].isMissing() ? found(NOTHING) : FINE;
+    }
+
+    /** Why place i of a ROW (or a TEXT) can't be used, or FINE. */
+    private int refusalAt(Row[] among, int r, int i) {
+        int refusal = refusalOf(among, r);
+        if (refusal != FINE) {
+            return refusal;
+        }
+        return among[r].has(i) ? FINE : found(BEYOND);
+    }
+
+    /** A ROW (or a TEXT) is there anew with n times v. */
+    private int layOut(Row[] among, int r, int n, int v) {
+        if (r < 0 || r >= among.length || n > among[r].places.length) {
+            return BAD;
+        }
+        if (n < 0) {
+            return found(SIZE);
+        }
+        among[r].renew(n, v);
+        return n;
     }
 
     private int found(int what) {
