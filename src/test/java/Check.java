@@ -3,6 +3,7 @@ import java.nio.charset.StandardCharsets;
 /** Counts answers that are not as due; the tests of the project share it. */
 final class Check {
     private final String name;
+    private String under = "";
     private int wrong = 0;
     private int asked = 0;
 
@@ -10,11 +11,16 @@ final class Check {
         this.name = name;
     }
 
+    /** What is tested from here on; told with each answer that is not as due. */
+    void under(String words) {
+        under = words.isEmpty() ? "" : " [" + words + "]";
+    }
+
     void due(String call, long got, long want) {
         asked++;
         if (got != want) {
             wrong++;
-            System.out.println(name + ": " + call + " answered " + got + ", due is " + want);
+            System.out.println(name + under + ": " + call + " answered " + got + ", due is " + want);
         }
     }
 
