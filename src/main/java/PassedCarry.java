@@ -22,6 +22,8 @@ public final class PassedCarry {
 
     /** What a PACE of 0, 1, 2, 3 does to BREATH on flat ground without the SACK. */
     private static final int[] BREATH_CHANGE = {2, 1, -1, -3};
+    /** What a PACE of 0 gives a HILLMAN. */
+    private static final int HILLMAN_REST = 3;
 
     private final Row[] rows = new Row[ROWS];
     private final Row[] texts = new Row[TEXTS];
@@ -1243,7 +1245,7 @@ public final class PassedCarry {
 
         private int breathAfter(int kind, int x, int slope, int step) {
             if (step <= 0) {
-                return breath[x] + (kind == HILLMAN ? 3 : 2);
+                return breath[x] + (kind == HILLMAN ? HILLMAN_REST : BREATH_CHANGE[0]);
             }
             int after = breath[x] + (step < BREATH_CHANGE.length ? BREATH_CHANGE[step] : 0);
             if (slope > 0 && !Hill.isOf(kind, GOAT)) {

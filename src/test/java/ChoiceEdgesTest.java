@@ -15,6 +15,7 @@ public final class ChoiceEdgesTest {
 
     public static void main(String[] args) {
         choicesStay();
+        onlyOneStepLeft();
         bestRefused();
         best();
         freeRefused();
@@ -42,6 +43,34 @@ public final class ChoiceEdgesTest {
         check.due("free(0, 1) at the beginning", p.free(0, 1), 3);
         p.go(1);
         check.due("free(0, 1) behind STEP 0", p.free(0, 1), 0);
+    }
+
+    /** A RACE with STEP 59 to come, the last one. */
+    private static PassedCarry late(String hill) {
+        PassedCarry p = Check.hillOf(hill);
+        p.go(59);
+        return p;
+    }
+
+    /** PACES chosen for STEPS behind the last one are of no use: what counts is the first. */
+    private static void onlyOneStepLeft() {
+        edges.sentence("(from the RACE as it is, to its end; it stays)");
+        edges.due("best()", () -> late("y== n9z n9z"), p -> p.best(0, 4), 64, 10);
+        edges.due("free()", () -> late("y== n9z n9z"), p -> p.free(0, 4), 192);
+        edges.due("pact()", () -> late("y= n9z n9z n9z"), p -> p.pact(0, 1, 2, 2), 16, 240);
+        for (String hill : new String[] {"y= n9z n9z n9z", "y== n9z g9z h9z", "y=== n9z n9wz n9z", "y==== n9z o9z n9z n9z"}) {
+            for (int i = 0; i < 6; i++) {
+                int x = i % 3;
+                int y = (x + 1 + i / 3) % 3;
+                PassedCarry p = late(hill);
+                int comesTo = p.duel(x, y, 1);
+                int first = p.asked();
+                edges.due("duel() of " + x + ", " + y + " on " + hill, () -> late(hill), q -> q.duel(x, y, 2), comesTo, first);
+                int worth = p.worth(x, y, 1);
+                int who = p.asked();
+                edges.due("worth() of " + x + ", " + y + " on " + hill, () -> late(hill), q -> q.worth(x, y, 2), worth, who);
+            }
+        }
     }
 
     private static PassedCarry three() {
@@ -193,6 +222,10 @@ public final class ChoiceEdgesTest {
         edges.due("5", () -> Check.hillOf("y= n1s n1w n1w"), p -> p.pact(0, 1, 2, 1), 5, 9);
         // RUNNER 2 gets it from who goes: 0 and 1 is 1, by RUNNER 1 alone, too.
         edges.due("1", () -> Check.hillOf("y= n9z n9z n9z"), p -> p.pact(0, 1, 2, 1), 1, 15);
+        // RUNNER 2 passes whoever is not DONE in STEP 0, so that both must go 3: 15, and nothing else.
+        edges.due("by one row alone", () -> Check.hillOf("y=== n9z n9z n9w"), p -> p.pact(0, 1, 2, 1), 15, 1);
+        // If RUNNER 1 goes in STEP 1, it passes RUNNER 2 in STEP 2 for good.
+        edges.due("by the first row alone", () -> Check.hillOf("y== n1z n1w n9zw"), p -> p.pact(0, 1, 2, 1), 0, 1);
         edges.due("k 2: 1 in the last place", () -> Check.hillOf("y= n9z n9z n9z"), p -> p.pact(0, 1, 2, 2), 1, 255);
     }
 
@@ -216,6 +249,8 @@ public final class ChoiceEdgesTest {
         edges.due("there are no others", () -> asked(Check.hillOf("y= n9w n9w")), p -> p.worth(0, 1, 2), 0, 0);
         edges.due("the other PAYS as it is", () -> asked(three()), p -> p.worth(0, 1, 1), 0, 0);
         edges.due("the other can be made to", () -> Check.hillOf("y== n9w n9w n9w"), p -> p.worth(0, 2, 1), 1, 2);
+        edges.due("by one row alone", () -> Check.hillOf("y=== n9z n9z n9w"), p -> p.worth(0, 1, 1), 1, 4);
+        edges.due("by the first row alone", () -> Check.hillOf("y== n1z n1w n9zw"), p -> p.worth(0, 1, 1), 1, 4);
         edges.due("nobody can be made to", () -> asked(behindTheEnd()), p -> p.worth(0, 2, 2), 0, 0);
     }
 

@@ -222,6 +222,10 @@ public final class HillEdgesTest {
         check.tells("now it is", q, q.road(0), 1);
         check.due("nobody is DONE", q.count(3), 0);
         check.due("fewer RUNNERS than none can't be", spoiled("y=").hill(2), 0);
+        PassedCarry s = Check.hillOf("y==== n9r n9w");
+        check.due("a HEAD START is tried", s.start(1), 3);
+        s.hill(0);
+        check.tells("behind that all are at YARD 0", s, s.told(1, 0), 0);
     }
 
     private static void road() {

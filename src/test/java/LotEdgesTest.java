@@ -9,6 +9,7 @@ public final class LotEdgesTest {
 
     public static void main(String[] args) {
         fromTheBeginning();
+        byTheLaw();
         start();
         fairRefused();
         fair();
@@ -21,6 +22,7 @@ public final class LotEdgesTest {
         oddsAtTheEdges();
         seasonRefused();
         season();
+        seasonAnew();
         edges.end();
     }
 
@@ -42,6 +44,45 @@ public final class LotEdgesTest {
         check.due("odds(1)", p.odds(1), 9);
         check.due("season(5, 1, 0)", p.season(5, 1, 0), 1);
         check.row("season(5, 1, 0)", p, 0, 0, 5);
+    }
+
+    /** RUNNER 0 goes up past both: by LAW 0 RUNNER 2 PAYS, by LAW 1 RUNNER 1, by LAW 2 RUNNER 0. */
+    private static PassedCarry past(int law) {
+        PassedCarry p = Check.hillOf("y^ n9w n9z n9z");
+        p.law(law);
+        return p;
+    }
+
+    /** All go up at first, and who has carried the SACK there has no BREATH left to run on. */
+    private static PassedCarry outOfBreath(int law) {
+        PassedCarry p = Check.hillOf("y/== n1w n1r n1r");
+        p.law(law);
+        return p;
+    }
+
+    private static void byTheLaw() {
+        edges.sentence("The LAW is v (0 .. 2; at once)");
+        int[][] starts = {{0, 0, 1}, {0, 1, 0}, {NONE, 0, 0}};
+        int[][] orders = {{1, 0, 2}, {0, 1, 2}, {1, 2, 0}};
+        int[][] heads = {{1, 0, 1}, {0, 0, 0}, {1, 0, 0}};
+        for (int law = 0; law < 3; law++) {
+            String by = " by LAW " + law;
+            PassedCarry p = past(law);
+            int payer = 2 - law;
+            int[] suppers = new int[3];
+            suppers[payer] = 6;
+            for (int x = 0; x < 3; x++) {
+                check.due("start(" + x + ")" + by, p.start(x), starts[law][x]);
+                check.due("odds(" + x + ")" + by, p.odds(x), x == payer ? 27 : 0);
+            }
+            check.due("season()" + by, p.season(6, 1, 0), payer);
+            check.row("season()" + by, p, 0, suppers);
+            PassedCarry q = outOfBreath(law);
+            check.due("post(3, 0)" + by, q.post(3, 0), 3);
+            check.row("post(3, 0)" + by, q, 0, orders[law]);
+            check.due("fair(1)" + by, q.fair(1), 0);
+            check.row("fair(1)" + by, q, 1, heads[law]);
+        }
     }
 
     private static void start() {
@@ -100,6 +141,8 @@ public final class LotEdgesTest {
         fairIs("y==== n9z n9w", 57, 0, 0);
         fairIs("y==== n9z h9s", 60, 0, 0);
         fairIs("y== n9w n9w n9z", 0, 1, 1, 2);
+        // Of five, four need 2 YARDS ahead to be DONE in STEP 1, as the last one is.
+        fairIs("y==== n9w n9w n9w n9w n9r", 0, 2, 2, 2, 2, 0);
     }
 
     private static void postRefused() {
@@ -141,6 +184,7 @@ public final class LotEdgesTest {
         postIs("y==== n9w n9w n9r", none, 2, 2, 0, 1);
         postIs("y==== n9w n9w n9r", none, 4, 2, 0, 1);
         postIs("y==== n9z n9s n9s", none, 1, 1, 2);
+        postIs("y== n9w n9w n9w n9w n9r", none, 2, 4, 0, 1, 2, 3);
         edges.sentence("(anew; those who do not, not; HEAD STARTS ahead of it: by numbers): how many.");
         postIs("y==== n9z n9z", none, 1);
         postIs("y==", none, 1);
@@ -259,6 +303,9 @@ public final class LotEdgesTest {
         oddsAre("y^ n1w n9z", 0, 1, 3, 1, 3);
         oddsAre("y^ n2w n9z", 0, 0, 3, 1, 3);
         oddsAre("y^ n3w n9z", 0, 0, 0, 0, 1);
+        // Up a lesser SLOPE 1 is enough, and 0, which there is not, would not be.
+        oddsAre("y/ n1w n9z", 0, 0, 0, 0, 1);
+        oddsAre("y/ n1w n9z", 0, 1, 9, 1, 1);
         // With 10 RUNNER 1 is DONE in STEP 3, with 8 or 9 the HARE comes to pass it in STEP 4.
         oddsAre("y" + "=".repeat(11) + "h9zzzzs n9s", 7, 0, 3, 1, 3);
         oddsAre("y" + "=".repeat(11) + "h9zzzzs n9s", 7, 1, 6, 2, 3);
@@ -304,6 +351,23 @@ public final class LotEdgesTest {
         String call = "season(" + n + ", " + seed + ", 3), BREATH " + breath;
         check.due(call, p.season(n, seed, 3), suppers[1] > suppers[0] ? 1 : 0);
         check.row(call, p, 3, suppers);
+    }
+
+    private static void seasonAnew() {
+        edges.sentence("suppers that each PAYS come to a ROW (anew): who PAYS most (the first).");
+        PassedCarry p = Check.hillOf("y= n5w n5w n5w n5w n5w");
+        check.due("40 RACES of five", p.season(40, 1, 0), 4);
+        check.row("40 RACES of five", p, 0, 0, 0, 0, 0, 40);
+        check.due("a season behind another", p.season(3, 5, 0), 4);
+        check.row("a season behind another", p, 0, 0, 0, 0, 0, 3);
+        // With a HEAD START to the end the last one is DONE at first, and nobody passes it.
+        p.head(4, 1);
+        check.due("HEAD STARTS as told", p.season(3, 5, 0), 3);
+        check.row("HEAD STARTS as told", p, 0, 0, 0, 0, 3, 0);
+        edges.sentence("(1 at least): suppers that each PAYS");
+        PassedCarry q = Check.hillOf("y/ n1w n9z");
+        check.due("with 1 at least one goes up", q.season(40, 7, 2), 1);
+        check.row("with 1 at least one goes up", q, 2, 0, 40);
     }
 
     private static void season() {

@@ -15,6 +15,7 @@ public final class RaceEdgesTest {
         keep();
         keepNot();
         on();
+        onAllAsItWas();
         pays();
         ranksRefused();
         ranks();
@@ -120,6 +121,9 @@ public final class RaceEdgesTest {
         edges.due("never", () -> gone("y== n9z", 60), p -> p.told(0, 2), 1, NONE);
         edges.sentence("3 its RANK as it is");
         edges.due("at the beginning", RaceEdgesTest::short4, p -> p.told(1, 3), 1, 2);
+        edges.due("who is one YARD behind now", () -> gone("y==== n9wz n9z", 1), p -> p.told(1, 3), 1, 2);
+        edges.due("who is one YARD ahead, with a greater number", () -> gone("y==== n9z n9wz", 1), p -> p.told(1, 3), 1, 1);
+        edges.due("who is one YARD behind, with a lesser number", () -> gone("y==== n9z n9wz", 1), p -> p.told(0, 3), 1, 2);
         edges.due("who is ahead now, if not at the end", () -> gone("y==== n9wz n9z", 1), p -> p.told(0, 3), 1, 1);
         edges.sentence("4 how many YARDS it went with the SACK (having it ahead of each going; to the end, not over it)");
         edges.due("to the end", () -> gone("y== n9s", 1), p -> p.told(0, 4), 1, 2);
@@ -231,6 +235,38 @@ public final class RaceEdgesTest {
         p.hill(0);
         p.go(1);
         check.due("all as it was", p.digest() == digest ? 1 : 0, 1);
+    }
+
+    private static void onAllAsItWas() {
+        edges.sentence("The RACE is as it was kept in a place");
+        for (int steps = 0; steps <= 5; steps++) {
+            PassedCarry p = gone("y====/=\\==^= n9ws n9sw g5rz", steps);
+            p.keep(1);
+            long kept = p.digest();
+            check.due("it goes on from STEP " + steps, p.go(60) > steps ? 1 : 0, 1);
+            p.on(1);
+            check.due("as it was behind STEP " + steps, p.digest(), kept);
+            p.begin();
+            p.on(1);
+            check.due("as it was behind STEP " + steps + ", from a beginning", p.digest(), kept);
+        }
+        // At the beginning nobody went or passed; behind two STEPS there were 3 PASSINGS.
+        PassedCarry q = Check.hillOf("y====== n9ws n9sw");
+        q.keep(0);
+        q.go(2);
+        q.keep(2);
+        q.on(0);
+        check.due("sack()", q.sack(), 0);
+        check.due("no PASSINGS", q.asked(), 0);
+        check.due("passed(0)", q.passed(0), 0);
+        is(q, 0, 4, 0);
+        q.on(2);
+        check.due("sack() behind two STEPS", q.sack(), 1);
+        check.due("PASSINGS behind two STEPS", q.asked(), 3);
+        check.due("passed(0) behind two STEPS", q.passed(0), 2);
+        check.due("passed(1) behind two STEPS", q.passed(1), 1);
+        is(q, 0, 4, 4);
+        is(q, 1, 4, 4);
     }
 
     private static void pays() {

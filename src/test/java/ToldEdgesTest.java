@@ -9,7 +9,6 @@ public final class ToldEdgesTest {
     private static final Check check = edges.check;
 
     public static void main(String[] args) {
-        constants();
         badAheadOfState();
         badAheadOfFindings();
         stateAheadOfFindings();
@@ -29,16 +28,6 @@ public final class ToldEdgesTest {
         digestOfMissingOnes();
         digestOfAll();
         edges.end();
-    }
-
-    private static void constants() {
-        edges.sentence("BAD = -1, FULL = -2, FINDING = -3, STATE = -4, SPENT = -6, NONE = -9");
-        check.due("BAD", PassedCarry.BAD, -1);
-        check.due("FULL", PassedCarry.FULL, -2);
-        check.due("FINDING", PassedCarry.FINDING, -3);
-        check.due("STATE", PassedCarry.STATE, -4);
-        check.due("SPENT", PassedCarry.SPENT, -6);
-        check.due("NONE", PassedCarry.NONE, -9);
     }
 
     private static void badAheadOfState() {
