@@ -32,6 +32,7 @@ public final class FaceTest {
 
     public static void main(String[] args) throws Exception {
         face();
+        faceOfTheDocument();
         fields(PassedCarry.class, true);
         insideClasses();
         source();
@@ -65,6 +66,31 @@ public final class FaceTest {
             Modifier.isPublic(PassedCarry.class.getModifiers()) && Modifier.isFinal(PassedCarry.class.getModifiers()));
         check.due("constructors", PassedCarry.class.getDeclaredConstructors().length, 1);
         yes("a public constructor without arguments", PassedCarry.class.getConstructors()[0].getParameterCount() == 0);
+    }
+
+    /** The face once more as the document has it, should that ever be another one than the list above. */
+    private static void faceOfTheDocument() throws Exception {
+        Path path = Path.of(System.getProperty("project.root", "."), "..", "shared", "DOC.md");
+        if (!Files.exists(path)) {
+            return;
+        }
+        String[] blocks = Files.readString(path).split("```");
+        yes("the document shows the class", blocks.length > 1 && blocks[1].contains("public final class PassedCarry"));
+        Set<String> methods = new TreeSet<>();
+        Matcher method = Pattern.compile("public (int|long) (\\w+)\\((.*?)\\);").matcher(blocks[1]);
+        while (method.find()) {
+            methods.add(method.group(1) + " " + method.group(2) + "(" + method.group(3).replaceAll(" \\w+(, )?", ",")
+                .replaceAll(",$", "") + ")");
+        }
+        yes("the document's methods: " + methods, methods.equals(FACE));
+        Matcher constant = Pattern.compile("\\b([A-Z]+) = (-?\\d+)").matcher(blocks[1]);
+        int constants = 0;
+        while (constant.find()) {
+            constants++;
+            check.due(constant.group(1), PassedCarry.class.getField(constant.group(1)).getInt(null),
+                Integer.parseInt(constant.group(2)));
+        }
+        check.due("the document's constants", constants, CONSTANTS.size());
     }
 
     private static void fields(Class<?> c, boolean mustHide) {

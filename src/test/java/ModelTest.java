@@ -9,6 +9,8 @@ import java.util.Random;
 public final class ModelTest {
     private static final int RUNS = Integer.getInteger("model.runs", 400);
     private static final int CALLS = 512;
+    /** The most calls that a hill, two orders, and any other turn of a run take. */
+    private static final int HILL_CALLS = 103, ORDER_CALLS = 14, TURN_CALLS = 3;
     private static final List<String> DEAR = List.of("fair", "odds", "season", "best", "free", "duel", "pact", "worth");
     private static final List<String> OF_RUNNERS = List.of("about", "pace", "mark", "head", "told", "passed", "laws",
         "best", "free", "duel", "pact", "worth", "start", "odds");
@@ -140,9 +142,9 @@ public final class ModelTest {
         Method m = face[lots.nextInt(face.length)];
         String name = m.getName();
         if (name.equals("hill") || name.equals("text") && lots.nextInt(4) > 0) {
-            return lots.nextInt(8) > 0 || writeHill();
+            return lots.nextInt(8) > 0 || !hasRoomFor(HILL_CALLS) || writeHill();
         }
-        if (name.equals("could") && lots.nextBoolean()) {
+        if (name.equals("could") && lots.nextBoolean() && hasRoomFor(ORDER_CALLS)) {
             return ordersByLot();
         }
         if (DEAR.contains(name) && lots.nextInt(4) > 0) {
@@ -158,13 +160,23 @@ public final class ModelTest {
         return same(name, args) && same("asked");
     }
 
+    /** Whether the object may be used so often still, and then as often as the end of a run takes. */
+    private boolean hasRoomFor(int more) {
+        return calls + more <= CALLS - 5;
+    }
+
+    /** As many calls as an object is promised for: the last one is the 512th. */
     private boolean run(Method[] face) throws ReflectiveOperationException {
         boolean ok = lots.nextInt(10) == 0 || writeHill();
-        while (ok && calls < CALLS - 120) {
+        while (ok && hasRoomFor(TURN_CALLS)) {
             ok = callByLot(face);
             ok = ok && (lots.nextInt(4) > 0 || same("digest"));
         }
-        return ok && same("digest") && same("upper") && same("lower") && same("finding");
+        ok = ok && same("upper") && same("lower") && same("finding");
+        while (ok && calls < CALLS) {
+            ok = same("digest");
+        }
+        return ok && calls == CALLS;
     }
 
     public static void main(String[] args) throws ReflectiveOperationException {
